@@ -7,6 +7,7 @@ public final class DemandTest {
         wrongArguments();
         localShare();
         helperIsChosen();
+        lowestBaseHelps();
         helperBuys();
         repairForAHelper();
         returnsAndRepairPlaces();
@@ -15,6 +16,7 @@ public final class DemandTest {
         suppliesBeforeLaterals();
         refusalByCustomers();
         refusalByUnits();
+        depotBuysForKeptOrders();
         advanceEdges();
         runEdges();
         runDraws();
@@ -100,6 +102,19 @@ public final class DemandTest {
         Check.due(7, "all wait", () -> x.waiting(1, 0));
     }
 
+    private static void lowestBaseHelps() {
+        DepotNetwork x = bases(2, 2, 2);
+        x.setLevel(1, 0, 1);
+        x.setLevel(3, 0, 1);
+        x.setLink(2, 1, 4);
+        x.setLink(2, 3, 4);
+        x.setLateralLimit(20);
+        x.demand(2, 0, 0);
+        Check.due(1, "base 1 helps", () -> x.helped(1, 0));
+        x.demand(2, 0, 0);
+        Check.due(1, "base 3 helps", () -> x.helped(3, 0));
+    }
+
     private static void helperBuys() {
         DepotNetwork x = bases(2, 4);
         x.setLevel(2, 0, 1);
@@ -127,7 +142,7 @@ public final class DemandTest {
     }
 
     private static void repairForAHelper() {
-        for (int now : new int[] {2, 7, 0}) {
+        for (int now : new int[] {2, 7, 1, 0}) {
             DepotNetwork x = bases(2, 4);
             x.setLevel(2, 0, 1);
             x.setLink(1, 2, 2);
@@ -250,35 +265,68 @@ public final class DemandTest {
             x.addItem(30, 1, 30);
         }
         for (int b = 1; b <= 7; b++) {
+            x.addBase(5);
+            for (int i = 0; i < 4; i++) {
+                x.setLevel(b, i, 20);
+            }
+        }
+        for (int k = 0; k < 199; k++) {
+            x.demand(1 + k % 7, k % 4, 0);
+        }
+        x.advance(5);
+        Check.due(4, "four places, the others wait", x::dueCount);
+        Check.due(true, "199 are under way", () -> x.demand(1, 0, 0));
+        Check.state("200 are under way", () -> x.demand(1, 1, 0));
+        Check.due(0, "though nobody waits", () -> x.waiting(1, 1));
+        x.setRate(7, 2, 100);
+        Check.due(0, "random demands are refused too", () -> x.run(3, 4));
+        Check.due(4, "and counted", x::refusedDemands);
+        x.advance(30);
+        Check.due(200, "the repaired ones went to kept orders", () -> inAll(x));
+        x.advance(1);
+        Check.due(196, "the first four have come", () -> inAll(x));
+        Check.due(true, "and now there is room", () -> x.demand(1, 1, 0));
+    }
+
+    private static int inAll(DepotNetwork x) {
+        int sum = 0;
+        for (int i = 0; i < x.itemCount(); i++) {
+            for (int kind = 0; kind <= 4; kind++) {
+                sum += x.underWay(i, kind);
+            }
+        }
+        return sum;
+    }
+
+    /** The most that can be under way: the rows inside must hold it. */
+    private static void depotBuysForKeptOrders() {
+        DepotNetwork x = new DepotNetwork();
+        for (int i = 0; i < 4; i++) {
+            x.addItem(30, 1, 30);
+        }
+        for (int b = 1; b <= 7; b++) {
             x.addBase(20);
+            for (int i = 0; i < 4; i++) {
+                x.setLevel(b, i, 20);
+            }
+        }
+        for (int k = 0; k < 200; k++) {
+            x.demand(1 + k % 7, k % 4, k % 10);
         }
         for (int i = 0; i < 4; i++) {
-            for (int s = 0; s <= 7; s++) {
-                x.setLevel(s, i, 20);
-            }
+            x.setLevel(0, i, 20);
         }
-        int taken = 0;
-        while (x.dueCount() < 199) {
-            x.demand(1 + taken / 20 % 7, taken / 140, 0);
-            taken++;
-            if (x.dueCount() == 198) {
-                x.setShare(7, 3, 10);
-                x.demand(7, 3, 0);
-            }
+        Check.due(280, "200 in RETURN, 80 in SUPPLY", x::dueCount);
+        Check.state("no demand more", () -> x.demand(1, 0, 0));
+        for (int i = 0; i < 4; i++) {
+            int item = i;
+            Check.due(160, "fleet", () -> x.fleet(item));
+            Check.due(30, "keptOrders", () -> x.keptOrders(item));
+            Check.due(20, "SUPPLY", () -> x.underWay(item, 2));
         }
-        Check.due(199, "units under way", x::dueCount);
-        x.setShare(7, 3, 0);
-        x.demand(7, 3, 0);
-        Check.state("200 or more are under way", () -> x.demand(7, 2, 0));
-        x.setRate(7, 2, 100);
-        Check.due(0, "random demands are refused too", () -> x.run(3, 5));
-        Check.due(5, "and counted", x::refusedDemands);
-        x.advance(15);
-        Check.due(true, "and now no more", () -> x.demand(7, 2, 0));
-        x.save(0);
-        x.run(3, 1);
-        x.restore(0);
-        Check.due(5, "the count comes back with the state", x::refusedDemands);
+        x.advance(20);
+        Check.due(200, "all supplies have come", () -> inAll(x));
+        Check.due(4, "four are in REPAIR", x::dueCount);
     }
 
     private static void advanceEdges() {

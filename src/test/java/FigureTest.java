@@ -91,14 +91,23 @@ public final class FigureTest {
         for (int k = 0; k < 6; k++) {
             x.demand(1, 0, 0);
         }
+        x.demand(1, 1, 0);
+        x.setLevel(1, 1, 2);
+        x.demand(1, 1, 0);
+        x.demand(1, 1, 0);
+        Check.due(1, "1/3", () -> x.fillNumerator(1, 1));
+        Check.due(3, "1/3 has the denominator", () -> x.fillDenominator(1, 1));
         Check.due(2, "4/6", () -> x.fillNumerator(1, 0));
         Check.due(3, "4/6 has the denominator", () -> x.fillDenominator(1, 0));
         x.demand(2, 1, 0);
         x.demand(2, 1, 0);
         Check.due(1, "2/2", () -> x.fillNumerator(2, -1));
         Check.due(1, "2/2 has the denominator", () -> x.fillDenominator(2, -1));
-        Check.due(3, "6/8", () -> x.fillNumerator(-1, -1));
-        Check.due(4, "6/8 has the denominator", () -> x.fillDenominator(-1, -1));
+        Check.due(3, "3/5", () -> x.fillNumerator(-1, 1));
+        Check.due(5, "3/5 has the denominator", () -> x.fillDenominator(-1, 1));
+        x.demand(1, 1, 0);
+        Check.due(7, "7/12", () -> x.fillNumerator(-1, -1));
+        Check.due(12, "7/12 has the denominator", () -> x.fillDenominator(-1, -1));
     }
 
     private static void delaysAndBackorderDays() {
@@ -154,6 +163,8 @@ public final class FigureTest {
         z.demand(1, 0, 9);
         z.demand(2, 0, 0);
         Check.due(1, "both are served, the lowest", () -> z.bestSite(0, 0, 2));
+        z.demand(2, 0, 0);
+        Check.due(1, "it is just one unit more", () -> z.bestSite(0, 0, 2));
     }
 
     private static void bestSiteChangesNothing() {

@@ -6,6 +6,7 @@ public final class SavedStateTest {
     public static void main(String[] args) {
         wrongArguments();
         restoreBringsAllBack();
+        statesReplaceEachOther();
         aSavedStateStays();
         slotsAreApart();
         textIsNotSaved();
@@ -43,8 +44,12 @@ public final class SavedStateTest {
     private static DepotNetwork busy() {
         DepotNetwork x = new DepotNetwork();
         x.addItem(5, 1, 3);
+        x.addItem(7, 2, 4);
         x.addBase(2);
         x.addBase(4);
+        x.setRate(1, 1, 90);
+        x.setRate(2, 1, 50);
+        x.setLevel(1, 1, 3);
         x.setLevel(0, 0, 1);
         x.setLevel(2, 0, 2);
         x.setLink(1, 2, 3);
@@ -105,10 +110,72 @@ public final class SavedStateTest {
         Check.due(5, "share", () -> x.setShare(1, 0, 0));
         Check.due(1, "reserve", () -> x.setReserve(2, 0, 0));
         Check.due(70, "rate", () -> x.setRate(1, 0, 0));
-        Check.due(1, "items", () -> x.addItem(2, 2, 2));
+        Check.due(2, "items", () -> x.addItem(2, 2, 2));
         Check.due(3, "bases", () -> x.addBase(2));
         Check.due(0, "a new base has no link", () -> x.setLink(3, 1, 1));
-        Check.due(0, "a new item has no level", () -> x.level(2, 1));
+        Check.due(0, "a new item has no level", () -> x.level(2, 2));
+    }
+
+    /** Another network than busy(): refusals, helpers, and a link that is gone meanwhile. */
+    private static void crowd(DepotNetwork x) {
+        x.load();
+        x.addItem(9, 3, 8);
+        x.addItem(8, 4, 7);
+        x.addItem(1, 1, 9);
+        for (int b = 1; b <= 5; b++) {
+            x.addBase(3 + b);
+            x.setRate(b, 1, 100);
+        }
+        x.run(6, 30);
+        x.setLevel(3, 1, 20);
+        x.setLevel(2, 0, 6);
+        x.setLink(1, 2, 3);
+        x.setLateralLimit(3);
+        x.setShare(1, 0, 10);
+        for (int k = 0; k < 4; k++) {
+            x.demand(1, 0, k);
+        }
+        x.setLink(1, 2, 0);
+        Check.due(true, "there are refusals", () -> x.refusedDemands() > 0);
+        Check.due(4, "there is help", () -> x.helped(2, 0));
+    }
+
+    private static String daysFrom(DepotNetwork x, int slot) {
+        restore(x, slot);
+        StringBuilder out = new StringBuilder(seen(x));
+        for (int d = 0; d < 25; d++) {
+            x.advance(1);
+            out.append(seen(x));
+        }
+        return out.toString();
+    }
+
+    private static void statesReplaceEachOther() {
+        DepotNetwork x = busy();
+        save(x, 0);
+        String busyDays = daysFrom(x, 0);
+        crowd(x);
+        save(x, 1);
+        String crowdDays = daysFrom(x, 1);
+        Check.due(false, "they differ", () -> busyDays.equals(crowdDays));
+        Check.due(busyDays, "busy again", () -> daysFrom(x, 0));
+        Check.due(crowdDays, "crowd again", () -> daysFrom(x, 1));
+        restore(x, 0);
+        save(x, 1);
+        Check.due(busyDays, "busy in the place of crowd", () -> daysFrom(x, 1));
+        crowd(x);
+        save(x, 0);
+        Check.due(crowdDays, "crowd in the place of busy", () -> daysFrom(x, 0));
+        restore(x, 0);
+        x.setLevel(4, 1, 20);
+        x.setShare(5, 2, 10);
+        x.demand(5, 2, 0);
+        Check.due(9, "the local repair time of item 2", () -> x.nextArrival(5, 2));
+        restore(x, 1);
+        x.setShare(2, 1, 10);
+        x.setLevel(2, 1, 20);
+        x.demand(2, 1, 0);
+        Check.due(4, "the local repair time of item 1", () -> x.nextArrival(2, 1));
     }
 
     private static void aSavedStateStays() {

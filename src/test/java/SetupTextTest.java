@@ -11,7 +11,9 @@ public final class SetupTextTest {
         outOfRange();
         tooMany();
         firstErrorCounts();
+        textEndsAtItsLength();
         loadReplacesTheNetwork();
+        loadStartsFromAnEmptyNetwork();
         Check.end("SetupTextTest");
     }
 
@@ -106,6 +108,9 @@ public final class SetupTextTest {
         good(3, "base1;base20;link1 2 1;");
         good(1, "limit00000000000000000000000000020;");
         good(2, "base 1 ;limit 0;");
+        good(6, "item 1 1 1;base 1;level 1 0 0;share 1 0 0;reserve 1 0 0;rate 1 0 0;");
+        good(4, "base 1;base 1;link 1 2 3;link 1 2 4;");
+        good(4, "base 1;base 1;link 1 2 3;link 2 1 4;");
     }
 
     private static void notAllowed() {
@@ -114,6 +119,9 @@ public final class SetupTextTest {
         error(1, 0, "items 1 1 1;");
         error(1, 0, "ite 1 1 1;");
         error(1, 0, "iten 1 1 1;");
+        error(1, 0, "atem 1 1 1;");
+        error(1, 0, "itema 1 1 1;");
+        error(1, 0, "itemz 1 1 1;");
         error(1, 2, "  Item 1 1 1;");
         error(1, 8, "item 1 1;");
         error(1, 10, "item 1 1 1");
@@ -198,6 +206,29 @@ public final class SetupTextTest {
         error(2, 12, "base 1; base0;");
     }
 
+    /** What was cut off, or stands behind the buffer, belongs to no token. */
+    private static void textEndsAtItsLength() {
+        DepotNetwork x = new DepotNetwork();
+        write(x, "limit 21;");
+        x.truncateText(7);
+        Check.due(-1, "load of <limit 2>", x::load);
+        Check.due(1, "errorCode of <limit 2>", x::errorCode);
+        Check.due(7, "errorPosition of <limit 2>", x::errorPosition);
+        write(x, "bases");
+        x.truncateText(4);
+        Check.due(-1, "load of <base>", x::load);
+        Check.due(1, "errorCode of <base>", x::errorCode);
+        Check.due(4, "errorPosition of <base>", x::errorPosition);
+        error(1, 0, "a".repeat(500));
+        error(1, 0, "9".repeat(500));
+        error(2, 5, "base " + "9".repeat(495));
+        error(1, 500, "base " + "0".repeat(494) + "7");
+        error(1, 496, " ".repeat(496) + "bass");
+        error(1, 500, " ".repeat(496) + "base");
+        good(1, "limit" + "0".repeat(494) + ";");
+        good(0, " ".repeat(500));
+    }
+
     private static void loadReplacesTheNetwork() {
         DepotNetwork x = new DepotNetwork();
         write(x, "item 1 1 1;base 2;base 3;level 1 0 1;link 1 2 3;limit 4;rate 1 0 100;"
@@ -227,8 +258,61 @@ public final class SetupTextTest {
         Check.due(0, "rate", () -> x.setRate(1, 0, 0));
         Check.due(0, "share", () -> x.setShare(1, 0, 0));
         Check.due(0, "reserve", () -> x.setReserve(1, 0, 0));
+        Check.due(1, "fillDenominator", () -> x.fillDenominator(-1, -1));
+        Check.due(0, "helped", () -> x.helped(-1, -1));
         Check.happens("saved states stay", () -> x.restore(1));
         Check.due(20, "day() of the saved state", x::day);
         Check.due(4, "limit of the saved state", () -> x.setLateralLimit(0));
+    }
+
+    /** Neither a trial of bestSite() nor an earlier network or text may leave a trace. */
+    private static void loadStartsFromAnEmptyNetwork() {
+        String full = "item 1 1 1;base 9;base 9;base 9;level 0 0 2;level 1 0 3;level 3 0 3;link 1 2 3;"
+                + "limit 4;rate 1 0 100;rate 2 0 90;share 1 0 5;reserve 1 0 1;";
+        DepotNetwork x = new DepotNetwork();
+        write(x, full);
+        x.load();
+        for (int k = 0; k < 9; k++) {
+            x.run(k, 30);
+        }
+        x.bestSite(0, 3, 10);
+        write(x, "item 1 1 1;base 9;base 9;base 9;");
+        x.load();
+        isEmpty(x);
+        write(x, full);
+        x.load();
+        for (int k = 0; k < 9; k++) {
+            x.run(k, 30);
+        }
+        write(x, full + "limit 21;");
+        x.load();
+        write(x, full);
+        x.load();
+        write(x, "item 1 1 1;base 9;base 9;base 9;");
+        x.load();
+        isEmpty(x);
+    }
+
+    private static void isEmpty(DepotNetwork x) {
+        int zero = x.day() + x.refusedDemands() + x.dueCount() + x.keptOrders(0) + x.underWay(0, 4)
+                + x.setLateralLimit(0) + x.setLink(1, 2, 0);
+        Check.due(0, "what the network holds", () -> zero);
+        for (int site = 0; site <= 3; site++) {
+            int s = site;
+            Check.due(0, "level", () -> x.level(s, 0));
+            Check.due(0, "onHand", () -> x.onHand(s, 0));
+        }
+        for (int base = 1; base <= 3; base++) {
+            int b = base;
+            Check.due(0, "waiting", () -> x.waiting(b, 0));
+            Check.due(0, "demands", () -> x.demands(b, 0));
+            Check.due(0, "fillNumerator", () -> x.fillNumerator(b, 0));
+            Check.due(0, "delays", () -> x.delays(b, 0));
+            Check.due(0, "backorderDays", () -> x.backorderDays(b, 0));
+            Check.due(0, "helped", () -> x.helped(b, 0));
+            Check.due(0, "rate", () -> x.setRate(b, 0, 0));
+            Check.due(0, "share", () -> x.setShare(b, 0, 0));
+            Check.due(0, "reserve", () -> x.setReserve(b, 0, 0));
+        }
     }
 }

@@ -91,6 +91,10 @@ public final class StockTest {
         Check.due(0, "nothing of item 1", () -> x.dueIn(1, 1));
         Check.due(0, "nothing for base 2", () -> x.dueIn(2, 0));
         Check.due(1, "position of base 2", () -> x.position(2, 0));
+        DepotNetwork y = small();
+        y.setShare(1, 0, 10);
+        y.demand(1, 0, 0);
+        Check.due(1, "the only unit under way", () -> y.dueIn(1, 0));
     }
 
     private static void underWayAndFleet() {
