@@ -962,14 +962,10 @@ public final class DepotNetwork {
             int cell = cell(DEPOT, item);
             if (onHand[cell] > 0) {
                 onHand[cell]--;
-                supply(buyer, item);
+                units.add(day + setup.leadTime[buyer], SUPPLY, item, buyer, buyer, 0);
             } else {
                 orders.add(buyer, item, priority, day);
             }
-        }
-
-        private void supply(int buyer, int item) {
-            units.add(day + setup.leadTime[buyer], SUPPLY, item, buyer, buyer, 0);
         }
 
         private void stockDepot(int item) {
@@ -980,7 +976,7 @@ public final class DepotNetwork {
             }
             int buyer = orders.site[first];
             orders.remove(first);
-            supply(buyer, item);
+            units.add(day + setup.leadTime[buyer], SUPPLY, item, buyer, buyer, 0);
         }
 
         private void stockBase(int base, int item) {
@@ -1016,7 +1012,8 @@ public final class DepotNetwork {
             if (kind == RETURN) {
                 endReturn(item);
             } else if (site == DEPOT) {
-                endDepotRepair(item);
+                freePlace(item);
+                stockDepot(item);
             } else if (site != owner) {
                 int lead = setup.linkTime(site, owner);
                 units.add(day + (lead > 0 ? lead : oldLink), LATERAL, item, owner, owner, 0);
@@ -1033,13 +1030,12 @@ public final class DepotNetwork {
             }
         }
 
-        private void endDepotRepair(int item) {
+        private void freePlace(int item) {
             int first = waitingUnits.firstOf(DEPOT, item);
             if (first != NONE) {
                 waitingUnits.remove(first);
                 repairAtDepot(item);
             }
-            stockDepot(item);
         }
 
         private void repairAtDepot(int item) {
@@ -1143,35 +1139,26 @@ public final class DepotNetwork {
                 if (tokenKind == END) {
                     return statements;
                 }
-                if (!readStatement(target)) {
+                int statement = readStatement(target.setup);
+                if (statement == NONE) {
                     return NONE;
                 }
+                apply(statement, target);
             }
             return NONE;
         }
 
-        private boolean readStatement(Network target) {
+        /** Answers which statement it is, or NONE if one of its tokens is wrong. */
+        private int readStatement(Setup setup) {
             int statement = findStatement();
             if (statement == NONE) {
                 return fail(NOT_ALLOWED);
             }
-            if ((statement == ITEM && target.setup.items >= MAX_ITEMS)
-                    || (statement == BASE && target.setup.sites >= MAX_SITES)) {
+            if ((statement == ITEM && setup.items >= MAX_ITEMS)
+                    || (statement == BASE && setup.sites >= MAX_SITES)) {
                 return fail(TOO_MANY);
             }
             nextToken();
-            if (!readArguments(statement, target.setup)) {
-                return false;
-            }
-            if (tokenKind != SEMICOLON) {
-                return fail(NOT_ALLOWED);
-            }
-            nextToken();
-            apply(statement, target);
-            return true;
-        }
-
-        private boolean readArguments(int statement, Setup setup) {
             int count = statement == BASE || statement == LIMIT ? 1 : MAX_ARGUMENTS;
             for (int index = 0; index < count; index++) {
                 if (tokenKind != NUMBER) {
@@ -1183,13 +1170,17 @@ public final class DepotNetwork {
                 argument[index] = number;
                 nextToken();
             }
-            return true;
+            if (tokenKind != SEMICOLON) {
+                return fail(NOT_ALLOWED);
+            }
+            nextToken();
+            return statement;
         }
 
-        private boolean fail(int code) {
+        private int fail(int code) {
             wrongCode = code;
             wrongPosition = tokenStart;
-            return false;
+            return NONE;
         }
 
         private int findStatement() {

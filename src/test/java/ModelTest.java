@@ -4,8 +4,18 @@ import java.util.Random;
 
 /** Random runs of calls, each answered by the class and by the model; then all they show. */
 public final class ModelTest {
-    private static final int RUNS = 400;
+    private static final int RUNS = 210;
     private static final int CALLS = 300;
+
+    // Beside plain styles: from nothing; many sites; few units; with texts; more than 200 units
+    // under way; repairs for helpers whose links go.
+    private static final int STYLES = 7;
+    private static final int NOTHING = 0;
+    private static final int MANY = 2;
+    private static final int SCARCE = 3;
+    private static final int TEXTS = 4;
+    private static final int CROWDED = 5;
+    private static final int HELPFUL = 6;
 
     private final Random random;
     private final DepotNetwork net = new DepotNetwork();
@@ -18,7 +28,7 @@ public final class ModelTest {
 
     public static void main(String[] args) {
         for (int seed = 1; seed <= RUNS; seed++) {
-            String fault = new ModelTest(seed).play(seed % 5);
+            String fault = new ModelTest(seed).play(seed % STYLES);
             int number = seed;
             Check.due("", "run " + number, () -> fault);
             if (!fault.isEmpty()) {
@@ -29,11 +39,11 @@ public final class ModelTest {
     }
 
     private String play(int style) {
-        if (style > 0) {
+        if (style != NOTHING) {
             build(style);
         }
         for (int call = 0; call < CALLS; call++) {
-            String fault = style == 4 ? callWithTexts() : oneCall(style);
+            String fault = style == TEXTS ? callWithTexts() : oneCall(style);
             if (fault.isEmpty() && (call % 7 == 0 || call > CALLS - 3)) {
                 fault = compareAll();
             }
@@ -45,8 +55,9 @@ public final class ModelTest {
     }
 
     private void build(int style) {
-        int items = 1 + random.nextInt(style == 2 ? 4 : 2);
-        int bases = 2 + random.nextInt(style == 2 ? 6 : 3);
+        boolean large = style == MANY || style == CROWDED;
+        int items = large ? 4 : 1 + random.nextInt(2);
+        int bases = large ? 4 + random.nextInt(4) : 2 + random.nextInt(3);
         for (int i = 0; i < items; i++) {
             int a = 1 + random.nextInt(8);
             int b = 1 + random.nextInt(3);
@@ -55,22 +66,13 @@ public final class ModelTest {
                     () -> net.addItem(a, b, c), () -> model.addItem(a, b, c));
         }
         for (int s = 0; s < bases; s++) {
-            int lead = 1 + random.nextInt(5);
+            int lead = style == CROWDED ? 20 : 1 + random.nextInt(5);
             both("addBase " + lead, () -> net.addBase(lead), () -> model.addBase(lead));
         }
         both("setLateralLimit 3", () -> net.setLateralLimit(3), () -> model.setLateralLimit(3));
         for (int i = 0; i < items; i++) {
             for (int s = 0; s <= bases; s++) {
-                int item = i;
-                int site = s;
-                int level = random.nextInt(style == 3 ? 2 : 6);
-                int rate = random.nextInt(101);
-                both("setLevel " + site + " " + item + " " + level,
-                        () -> net.setLevel(site, item, level),
-                        () -> model.setLevel(site, item, level));
-                both("setRate " + site + " " + item + " " + rate,
-                        () -> net.setRate(site, item, rate),
-                        () -> model.setRate(site, item, rate));
+                buildCell(style, s, i);
             }
         }
         for (int a = 1; a <= bases; a++) {
@@ -81,6 +83,20 @@ public final class ModelTest {
                 both("setLink " + a + " " + b + " " + lead, () -> net.setLink(one, two, lead),
                         () -> model.setLink(one, two, lead));
             }
+        }
+    }
+
+    private void buildCell(int style, int site, int item) {
+        int level = style == CROWDED ? site == 0 ? 0 : 20
+                : style == HELPFUL ? site % 2 * 6 : random.nextInt(style == SCARCE ? 2 : 6);
+        int rate = style == HELPFUL ? 5 : random.nextInt(101);
+        both("setLevel " + site + " " + item + " " + level,
+                () -> net.setLevel(site, item, level), () -> model.setLevel(site, item, level));
+        both("setRate " + site + " " + item + " " + rate,
+                () -> net.setRate(site, item, rate), () -> model.setRate(site, item, rate));
+        if (style == HELPFUL) {
+            both("setShare " + site + " " + item + " 8",
+                    () -> net.setShare(site, item, 8), () -> model.setShare(site, item, 8));
         }
     }
 
@@ -134,7 +150,7 @@ public final class ModelTest {
             int p = near(0, 9);
             return both("demand " + b + " " + i + " " + p,
                     () -> net.demand(b, i, p), () -> model.demand(b, i, p));
-        } else if (kind < 60) {
+        } else if (kind < 60 && !(style == CROWDED && random.nextInt(3) > 0)) {
             int d = random.nextInt(20) == 0 ? near(1, 60) : near(1, 4);
             return both("advance " + d, () -> net.advance(d), () -> model.advance(d));
         } else if (kind < 64) {
@@ -151,21 +167,22 @@ public final class ModelTest {
         } else if (kind < 76) {
             int s = random.nextInt(3) == 0 ? 0 : aSite();
             int i = anItem();
-            int v = style == 3 && random.nextBoolean() ? near(0, 20) : near(0, 5);
+            boolean wide = style == SCARCE || style == CROWDED;
+            int v = wide && random.nextBoolean() ? near(0, 20) : near(0, 5);
             return both("setLevel " + s + " " + i + " " + v,
                     () -> net.setLevel(s, i, v), () -> model.setLevel(s, i, v));
         } else if (kind < 88) {
-            return setting();
+            return setting(style);
         } else if (kind < 92) {
             return growth();
         }
         return slotCall();
     }
 
-    private String setting() {
+    private String setting(int style) {
         int b = aBase();
         int i = anItem();
-        switch (random.nextInt(5)) {
+        switch (style == HELPFUL && random.nextInt(4) > 0 ? 4 : random.nextInt(5)) {
             case 0: {
                 int v = near(0, 10);
                 return both("setShare " + b + " " + i + " " + v,
@@ -188,7 +205,8 @@ public final class ModelTest {
             }
             default: {
                 int o = aBase();
-                int v = random.nextBoolean() ? near(0, 20) : near(0, 4);
+                boolean low = style == HELPFUL || random.nextBoolean();
+                int v = low ? near(0, 3) : near(0, 20);
                 return both("setLink " + b + " " + o + " " + v,
                         () -> net.setLink(b, o, v), () -> model.setLink(b, o, v));
             }
@@ -231,7 +249,7 @@ public final class ModelTest {
 
     private String callWithTexts() {
         if (random.nextInt(3) > 0) {
-            return oneCall(4);
+            return oneCall(TEXTS);
         }
         String setup = randomSetup();
         String fault = "";

@@ -267,8 +267,8 @@ public final class SetupTextTest {
 
     /** Neither a trial of bestSite() nor an earlier network or text may leave a trace. */
     private static void loadStartsFromAnEmptyNetwork() {
-        String full = "item 1 1 1;base 9;base 9;base 9;level 0 0 2;level 1 0 3;level 3 0 3;link 1 2 3;"
-                + "limit 4;rate 1 0 100;rate 2 0 90;share 1 0 5;reserve 1 0 1;";
+        String full = "item 1 1 1;base 9;base 9;base 9;level 0 0 2;level 1 0 3;level 3 0 3;"
+                + "link 1 2 3;limit 4;rate 1 0 100;rate 2 0 90;share 1 0 5;reserve 1 0 1;";
         DepotNetwork x = new DepotNetwork();
         write(x, full);
         x.load();
