@@ -1024,7 +1024,7 @@ public final class DepotNetwork {
 
         private void endReturn(int item) {
             if (units.countDepotRepairs(item) < setup.places[item]) {
-                repairAtDepot(item);
+                units.add(day + setup.depotTime[item], REPAIR, item, DEPOT, DEPOT, 0);
             } else {
                 waitingUnits.add(DEPOT, item, 0, day);
             }
@@ -1034,12 +1034,8 @@ public final class DepotNetwork {
             int first = waitingUnits.firstOf(DEPOT, item);
             if (first != NONE) {
                 waitingUnits.remove(first);
-                repairAtDepot(item);
+                units.add(day + setup.depotTime[item], REPAIR, item, DEPOT, DEPOT, 0);
             }
-        }
-
-        private void repairAtDepot(int item) {
-            units.add(day + setup.depotTime[item], REPAIR, item, DEPOT, DEPOT, 0);
         }
 
         /** Answers how many demands were not refused. */
