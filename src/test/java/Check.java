@@ -10,21 +10,35 @@ final class Check {
 
     private static int wrong = 0;
     private static int made = 0;
+    private static String subject = "";
 
     private Check() {
     }
 
+    /** Stands before each fault that is told from now on. */
+    static void about(String newSubject) {
+        subject = newSubject.isEmpty() ? "" : newSubject + "\n    ";
+    }
+
+    static int count() {
+        return made;
+    }
+
     static void due(Object want, String what, Call call) {
-        made++;
         Object got;
         try {
             got = call.answer();
         } catch (RuntimeException e) {
             got = "throws." + e.getClass().getSimpleName();
         }
+        is(want, what, got);
+    }
+
+    static void is(Object want, String what, Object got) {
+        made++;
         if (!want.equals(got)) {
             wrong++;
-            System.out.println(what + " answered " + got + ", due is " + want);
+            System.out.println(subject + what + " answered " + got + ", due is " + want);
         }
     }
 
