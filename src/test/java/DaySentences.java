@@ -517,7 +517,9 @@ final class DaySentences {
         Check.state("no day more", () -> x.advance(1));
         Check.state("nor 60", () -> x.advance(60));
         Check.is(9999, "day()", x.day());
-        Check.is(true, "the last day is a day like others", !x.demand(1, 0, 3));
+        Check.is(false, "the last day is a day like others", x.demand(1, 0, 3));
+        Check.is(3, "the customer waits", x.topPriority(1, 0));
+        Check.is(1, "the order is kept", x.keptOrders(0));
         Check.is(10019, "a due day may lie beyond", x.dueDay(0));
         x.restore(0);
         x.advance(1);

@@ -173,6 +173,7 @@ final class DemandSentences {
         Sentences.holds(DEMANDS, helper, DemandSentences::lowestLeadTime);
         Sentences.holds(DEMANDS, helper, DemandSentences::moreOnHand);
         Sentences.holds(DEMANDS, helper, DemandSentences::lowerNumber);
+        Sentences.holds(DEMANDS, helper, DemandSentences::ofAllOtherBases);
         Sentences.holds(DEMANDS, "If there is a helper, it sends a unit to the base (LATERAL, due"
                 + " after the lead time of the link), and the buyer of the new unit is the"
                 + " helper.", DemandSentences::helperSends);
@@ -381,6 +382,12 @@ final class DemandSentences {
         x.setLevel(2, 0, 9);
         x.demand(1, 0, 0);
         Check.is(1, "base 2 has 9", x.helped(2, 0));
+        x.setLevel(3, 0, 20);
+        x.setLevel(4, 0, 20);
+        Nets.demands(x, 18, 3, 0, 0);
+        Nets.demands(x, 18, 4, 0, 0);
+        x.demand(1, 0, 0);
+        Check.is(2, "base 2 has 8, the others have a higher level", x.helped(2, 0));
     }
 
     private static void lowerNumber() {
@@ -396,6 +403,25 @@ final class DemandSentences {
             Check.is(1, "base " + b + " is next", x.helped(b, 0));
         }
         Check.is(3, "three helped", x.helped(-1, -1));
+    }
+
+    /** Seven bases, all linked: every one can help every other one. */
+    private static void ofAllOtherBases() {
+        for (int base = 1; base <= 7; base++) {
+            for (int only = 1; only <= 7; only++) {
+                DepotNetwork x = Nets.bases(4, 4, 4, 4, 4, 4, 4);
+                for (int a = 1; a <= 7; a++) {
+                    for (int b = a + 1; b <= 7; b++) {
+                        x.setLink(a, b, 1);
+                    }
+                }
+                x.setLateralLimit(1);
+                x.setLevel(only, 0, 1);
+                Check.is(base == only, "on hand at " + only, x.demand(base, 0, 0));
+                Check.is(base == only ? 0 : 1, "help from " + only, x.helped(only, 0));
+                Check.is(0, "on hand there then", x.onHand(only, 0));
+            }
+        }
     }
 
     private static void helperSends() {
@@ -570,6 +596,7 @@ final class DemandSentences {
         Check.is(279, "80 kept orders are filled", Nets.underWay(x));
         Check.state("279 are under way", () -> x.demand(1, 0, 0));
         helpBeyond200();
+        theMostUnderWay();
     }
 
     /** The last demand may bring three units under way at once. */
@@ -590,6 +617,34 @@ final class DemandSentences {
         }
         Check.is(202 + 60, "the kept orders of three items", Nets.underWay(x));
         Check.is(202 + 60, "all have a due day", x.dueCount());
+    }
+
+    /** The last demand brings two, and then the depot buys 20 of each item for kept orders. */
+    private static void theMostUnderWay() {
+        DepotNetwork x = Nets.full(20);
+        for (int k = 0; k < 199; k++) {
+            x.demand(2 + k % 6, k / 6 % 4, k % 10);
+        }
+        x.setLevel(1, 3, 0);
+        x.setLink(1, 7, 20);
+        x.setLateralLimit(20);
+        Check.is(false, "199 are under way", x.demand(1, 3, 0));
+        for (int i = 0; i < 4; i++) {
+            x.setLevel(0, i, 20);
+        }
+        Check.is(201 + 80, "under way", x.dueCount());
+        Check.state("no demand more", () -> x.demand(1, 0, 0));
+        x.advance(19);
+        Check.is(281, "the day before they come", x.dueCount());
+        x.advance(1);
+        Check.is(200, "RETURN has ended, 80 and one have come", Nets.underWay(x));
+        Check.is(4, "in REPAIR", x.dueCount());
+        for (int i = 0; i < 4; i++) {
+            Check.is(i < 3 ? 160 : 140, "fleet", x.fleet(i));
+            for (int b = 1; b <= 7; b++) {
+                Check.is(x.level(b, i), "position", x.position(b, i));
+            }
+        }
     }
 
     private static void refusedByCustomers() {

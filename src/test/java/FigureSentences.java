@@ -219,6 +219,7 @@ final class FigureSentences {
         String fewest = "The best site is the one for which the backorder days of all bases and"
                 + " items are fewest in the end; of several the lowest.";
         Sentences.holds(BEST, fewest, FigureSentences::fewestBackorderDays);
+        Sentences.holds(BEST, fewest, FigureSentences::ofAllBasesAndItems);
         Sentences.holds(BEST, fewest, FigureSentences::ofSeveralTheLowest);
         Sentences.holds(BEST, "Sites with the level 20 are left out.",
                 FigureSentences::fullSites);
@@ -330,6 +331,21 @@ final class FigureSentences {
         Check.is(1, "where one waits already", y.bestSite(0, 3, 1));
     }
 
+    /**
+     * A unit for the customer at base 1 saves one backorder day of item 0; but as 99 wait then
+     * instead of 100, a customer of item 1 comes a day earlier, which costs one.
+     */
+    private static void ofAllBasesAndItems() {
+        DepotNetwork x = Nets.bases(2, 20);
+        x.addItem(5, 1, 3);
+        x.setLevel(0, 0, 1);
+        x.demand(1, 0, 0);
+        Nets.demands(x, 99, 2, 1, 0);
+        Check.is(1, "without item 1, base 1 is best", x.bestSite(0, 0, 5));
+        x.setRate(2, 1, 100);
+        Check.is(0, "with it, all are alike", x.bestSite(0, 0, 5));
+    }
+
     private static void ofSeveralTheLowest() {
         DepotNetwork x = Nets.bases(5, 5, 5);
         Check.is(0, "no demands: the depot", x.bestSite(0, 0, 10));
@@ -376,6 +392,12 @@ final class FigureSentences {
         x.run(9, 20);
         y.run(9, 20);
         Check.is(Nets.seenFor(x, 40), "the days to come", Nets.seenFor(y, 40));
+        DepotNetwork loaded = new DepotNetwork();
+        Nets.write(loaded, "item 1 1 1;base 1;level 1 0 3;rate 1 0 100;");
+        loaded.load();
+        String before = Nets.seen(loaded);
+        loaded.bestSite(0, 1, 10);
+        Check.is(before, "a network that was loaded", Nets.seen(loaded));
         DepotNetwork z = Nets.busy();
         y.restore(1);
         Check.is(Nets.seenFor(z, 40), "the saved state", Nets.seenFor(y, 40));

@@ -36,6 +36,7 @@ final class StateSentences {
         Sentences.holds("Promise 45", whole, StateSentences::savesAFullNetwork);
         Sentences.holds("Promise 45", whole, StateSentences::savesTheRefused);
         Sentences.holds("Promise 45", whole, StateSentences::savesTimesAndPlaces);
+        Sentences.holds("Promise 45", whole, StateSentences::savesEverySetting);
         Sentences.holds("Promise 45",
                 "- `slot`: 0 or 1; a state that is already saved there is replaced",
                 StateSentences::replaces);
@@ -133,6 +134,47 @@ final class StateSentences {
         Check.is("1 0 0 0 0, 1 0 0 0 0, 1 0 0 0 0, 1 1 0 1 1", "slot 1", Nets.units(x));
         x.advance(1);
         Check.is("2 1 0 0 0", "slot 1, a day later", Nets.units(x));
+    }
+
+    /** Four items and seven bases, and no two of them are alike. */
+    private static DepotNetwork allDifferent() {
+        DepotNetwork x = new DepotNetwork();
+        for (int i = 0; i < 4; i++) {
+            x.addItem(3 + 2 * i, 1 + i, 20 - 3 * i);
+        }
+        for (int b = 1; b <= 7; b++) {
+            x.addBase(2 * b + 3);
+            for (int other = 1; other < b; other++) {
+                x.setLink(b, other, 1 + (5 * b + other) % 20);
+            }
+            for (int i = 0; i < 4; i++) {
+                x.setLevel(b, i, b + i);
+                x.setShare(b, i, (b + 3 * i) % 11);
+                x.setReserve(b, i, 2 * b + i);
+                x.setRate(b, i, 10 * b + 7 * i);
+            }
+        }
+        x.setLateralLimit(12);
+        return x;
+    }
+
+    private static void savesEverySetting() {
+        DepotNetwork x = allDifferent();
+        DepotNetwork y = allDifferent();
+        x.save(0);
+        x.load();
+        Nets.write(x, "item 1 1 1;".repeat(4) + "base 1;".repeat(7));
+        x.load();
+        x.save(1);
+        x.restore(0);
+        Check.is(Nets.seen(y), "what is set", Nets.seen(x));
+        for (int b = 1; b <= 7; b++) {
+            for (int i = 0; i < 4; i++) {
+                Nets.demands(x, 4, b, i, (b + i) % 10);
+                Nets.demands(y, 4, b, i, (b + i) % 10);
+            }
+        }
+        Check.is(Nets.seenFor(y, 40), "what comes of it", Nets.seenFor(x, 40));
     }
 
     private static void replaces() {

@@ -304,6 +304,11 @@ final class StockSentences {
     }
 
     private static void fleets() {
+        DepotNetwork shelf = Nets.bases(2, 2);
+        shelf.setLevel(0, 0, 7);
+        Check.is(7, "on hand at the depot", shelf.fleet(0));
+        shelf.setLevel(2, 0, 20);
+        Check.is(27, "and at the last base", shelf.fleet(0));
         DepotNetwork x = Nets.bases(2, 2);
         x.addItem(1, 1, 1);
         Check.is(0, "at first", x.fleet(0));

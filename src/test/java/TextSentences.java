@@ -177,6 +177,7 @@ final class TextSentences {
             error(1, two + "^" + word + "a " + numbers + ";");
             error(1, two + "^a" + word + " " + numbers + ";");
             error(1, two + word + " ^" + word + ";");
+            misspelt(two, word, numbers);
         }
         for (String word : new String[] {"base", "limit"}) {
             good(4, two + word + " 3;");
@@ -185,31 +186,46 @@ final class TextSentences {
             error(1, two + "^" + word.substring(1) + " 3;");
             error(1, two + "^" + word.substring(0, word.length() - 1) + " 3;");
             error(1, two + "^" + word + "a 3;");
+            misspelt(two, word, "3");
         }
         for (String no : new String[] {"none", "items", "bases", "site", "run", "save", "a", "z"}) {
             error(1, two + "^" + no + " 1 1 1;");
         }
     }
 
+    /** Each letter in turn is another one. */
+    private static void misspelt(String before, String word, String numbers) {
+        for (int k = 0; k < word.length(); k++) {
+            char other = word.charAt(k) == 'z' ? 'y' : (char) (word.charAt(k) + 1);
+            error(1, before + "^" + word.substring(0, k) + other + word.substring(k + 1) + " "
+                    + numbers + ";");
+        }
+    }
+
     private static void effects() {
-        DepotNetwork x = good(14, "item 7 2 4;item 9 1 8;base 3;base 5;level 0 0 6;level 1 0 2;"
-                + "level 2 1 20;level 2 1 9;link 2 1 8;link 1 2 6;share 1 0 10;reserve 2 1 20;"
-                + "rate 1 1 100;limit 20;");
+        DepotNetwork x = good(19, "item 7 2 4;item 9 1 8;base 3;base 5;base 6;level 0 0 6;"
+                + "level 1 0 2;level 2 1 20;level 2 1 9;link 2 1 8;link 1 2 6;link 2 3 7;"
+                + "share 1 0 10;share 3 1 4;reserve 2 1 20;reserve 3 0 2;rate 2 1 100;"
+                + "rate 3 0 55;limit 20;");
         DepotNetwork y = new DepotNetwork();
         y.addItem(7, 2, 4);
         y.addItem(9, 1, 8);
-        Nets.addBases(y, 3, 5);
+        Nets.addBases(y, 3, 5, 6);
         y.setLevel(0, 0, 6);
         y.setLevel(1, 0, 2);
         y.setLevel(2, 1, 9);
         y.setLink(1, 2, 6);
+        y.setLink(2, 3, 7);
         y.setShare(1, 0, 10);
+        y.setShare(3, 1, 4);
         y.setReserve(2, 1, 20);
-        y.setRate(1, 1, 100);
+        y.setReserve(3, 0, 2);
+        y.setRate(2, 1, 100);
+        y.setRate(3, 0, 55);
         y.setLateralLimit(20);
         Check.is(Nets.seen(y), "as the methods do", Nets.seen(x));
         for (int k = 0; k < 3; k++) {
-            for (int b = 1; b <= 2; b++) {
+            for (int b = 1; b <= 3; b++) {
                 Nets.demands(x, 3, b, k % 2, k);
                 Nets.demands(y, 3, b, k % 2, k);
             }
@@ -431,6 +447,18 @@ final class TextSentences {
             x.appendText(0x20202020);
             x.truncateText(8);
             Check.is("1 0 -1", "what was cut does not come back", told(x));
+            Nets.write(x, "limit 21;");
+            x.truncateText(7);
+            Check.is("-1 1 7", "nor does a digit", told(x));
+            Nets.write(x, "bases");
+            x.truncateText(4);
+            Check.is("-1 1 4", "nor a letter", told(x));
+            Nets.write(x, "limit 2;");
+            x.truncateText(7);
+            Check.is("-1 1 7", "nor a semicolon", told(x));
+            Nets.write(x, "base 1;?");
+            x.truncateText(7);
+            Check.is("1 0 -1", "nor what is wrong", told(x));
         });
         Sentences.holds("Promise 41", "- `length`: the new length, 0 to the present length",
                 () -> {
@@ -538,6 +566,7 @@ final class TextSentences {
             Check.is(1, "the depot alone", x.siteCount());
             Check.is(0, "without items", x.itemCount());
         }
+        replacesAgainAndAgain();
         DepotNetwork z = new DepotNetwork();
         for (int i = 0; i < 4; i++) {
             z.addItem(1, 1, 1);
@@ -551,6 +580,36 @@ final class TextSentences {
         z.load();
         Check.is(0, "none refused in the new one", z.refusedDemands());
         Check.is(false, "nor is this one", z.demand(1, 0, 0));
+    }
+
+    /** Neither an earlier network nor a trial leaves a unit behind. */
+    private static void replacesAgainAndAgain() {
+        String stocked = "item 1 1 1;item 1 1 1;base 2;base 2;level 0 0 3;level 1 0 4;level 2 1 5;"
+                + "link 1 2 3;share 1 0 4;reserve 1 0 5;rate 1 0 6;limit 7;";
+        String plain = "item 1 1 1;item 1 1 1;base 2;base 2;";
+        DepotNetwork empty = new DepotNetwork();
+        Nets.write(empty, plain);
+        empty.load();
+        DepotNetwork x = new DepotNetwork();
+        for (int k = 0; k < 6; k++) {
+            Nets.write(x, stocked);
+            Check.is(12, "a stocked one", x.load());
+            x.demand(1, 0, 0);
+            x.demand(1, 1, 0);
+            x.advance(3);
+            if (k % 2 == 1) {
+                x.bestSite(0, 1, 10);
+            }
+            String before = Nets.seen(x);
+            if (k % 3 == 1) {
+                Nets.write(x, "level 0 0 1;");
+                Check.is(-1, "a wrong one", x.load());
+                Check.is(before, "the network stays", Nets.seen(x));
+            }
+            Nets.write(x, plain);
+            Check.is(4, "a plain one", x.load());
+            Check.is(Nets.seen(empty), "no unit is left", Nets.seen(x));
+        }
     }
 
     private static void savedStatesStay() {
