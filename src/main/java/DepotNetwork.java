@@ -25,6 +25,7 @@ public final class DepotNetwork {
     private static final int MAX_LIMIT = 20;
     private static final int MAX_PRIORITY = 9;
     private static final int MAX_DAY = 9999;
+    private static final int MAX_SEED = 2147483647;
     private static final int MAX_ADVANCE = 60;
     private static final int MAX_RUN = 30;
     private static final int MAX_TRIAL = 10;
@@ -165,7 +166,7 @@ public final class DepotNetwork {
     }
 
     public int run(int seed, int days) throws IllegalArgumentException, IllegalStateException {
-        checkRange(seed, 0, Integer.MAX_VALUE);
+        checkRange(seed, 0, MAX_SEED);
         checkRange(days, 1, MAX_RUN);
         checkLastDay(days);
         return network.runDays(seed, days);
@@ -325,7 +326,7 @@ public final class DepotNetwork {
     public int bestSite(int item, int seed, int days)
             throws IndexOutOfBoundsException, IllegalArgumentException, IllegalStateException {
         checkItem(item);
-        checkRange(seed, 0, Integer.MAX_VALUE);
+        checkRange(seed, 0, MAX_SEED);
         checkRange(days, 1, MAX_TRIAL);
         checkLastDay(days);
         int best = NONE;
